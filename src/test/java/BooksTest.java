@@ -295,6 +295,9 @@ public final class BooksTest {
         x.person(9, 9);
         check.due("no promises: every day", x.drawn(7, 30, 0, -1), 3000);
         check.due("no promises: every life", x.drawn(7, 30, 0, 50), 30);
+        check.due("one life", x.drawn(7, 1, 0, -1), 100);
+        check.due("day 99", x.drawn(7, 1, 0, 99), 1);
+        check.due("day 0", x.drawn(7, 2, 0, 0), 2);
         check.due("n 0", x.drawn(7, 0, 0, 50), BAD);
         check.due("n 31", x.drawn(7, 31, 0, 50), BAD);
         check.due("one 1", x.drawn(7, 1, 1, 50), BAD);

@@ -17,6 +17,7 @@ public final class DeedsTest {
         test.backAndChanges();
         test.undo();
         test.undoFortyAtMost();
+        test.undoManySorts();
         test.redo();
         test.redoBehindDeeds();
         test.check.end("DeedsTest");
@@ -216,6 +217,47 @@ public final class DeedsTest {
         check.due("as it was behind the fiftieth", x.of(0, 0), 10 + 25 % 20);
         check.due("redo", x.redo(), 39);
         check.due("the 26th pair's first", x.of(0, 0), 2);
+    }
+
+    /** Numbers of several people and promises, so that each is found again behind the forty. */
+    private void undoManySorts() {
+        ChainsHold x = new ChainsHold();
+        x.person(0, 1);
+        x.person(0, 1);
+        x.promise(1, 50);
+        x.promise(12, 50);
+        for (int k = 1; k <= 9; k++) {
+            x.mend(k % 2, 0, k);
+            x.mend(1 - k % 2, 1, 10 + k);
+            x.mend(k % 2, 3, 60 + k);
+            x.mend(1 - k % 2, 5, 30 + k);
+            x.mend(k % 2, 2, k % 2 == 0 ? 9 - k : k == 2 ? 1 : k);
+        }
+        int changes = x.count(3);
+        check.due("forty", changes, 40);
+        int[] before = {x.of(0, 0), x.of(1, 0), x.of(0, 1), x.of(1, 1), x.of(0, 3), x.of(1, 3), x.of(0, 5), x.of(1, 5)};
+        int[] then = {8, 9, 19, 18, 68, 69, 39, 38};
+        for (int i = 0; i < then.length; i++) {
+            check.due("told last " + i, before[i], then[i]);
+        }
+        for (int left = 39; left >= 0; left--) {
+            check.due("undo", x.undo(), left);
+        }
+        // the first five were forgotten: those of k = 1
+        check.due("base of 1", x.of(1, 0), 1);
+        check.due("round of 0", x.of(0, 1), 11);
+        check.due("due of 1", x.of(1, 3), 61);
+        check.due("kept of 0", x.of(0, 5), 31);
+        check.due("slack of 1", x.of(1, 2), 1);
+        check.due("base of 0", x.of(0, 0), 0);
+        check.due("kept of 1", x.of(1, 5), -1);
+        for (int left = 39; left >= 0; left--) {
+            check.due("redo", x.redo(), left);
+        }
+        for (int i = 0; i < then.length; i++) {
+            int what = new int[] {0, 1, 3, 5}[i / 2];
+            check.due("done again " + i, x.of(i % 2, what), then[i]);
+        }
     }
 
     private void redo() {

@@ -2,6 +2,7 @@ import java.lang.reflect.Method;
 import java.lang.reflect.Modifier;
 import java.util.ArrayList;
 import java.util.Arrays;
+import java.util.Collections;
 import java.util.HashMap;
 import java.util.List;
 import java.util.Map;
@@ -75,6 +76,11 @@ public final class ModelTest {
         if (random.nextInt(8) != 0) {
             settle();
         }
+        if (random.nextInt(3) == 0) {
+            // few sorts of calls, many of each: limits are reached
+            Collections.shuffle(names, random);
+            names = names.subList(0, 4 + random.nextInt(8));
+        }
         while (calls < CALLS && !wrong) {
             int dice = random.nextInt(60);
             if (dice == 0) {
@@ -97,11 +103,11 @@ public final class ModelTest {
     }
 
     private void settle() {
-        int n = 1 + random.nextInt(6);
+        int n = random.nextBoolean() ? 6 : 1 + random.nextInt(6);
         for (int k = 0; k < n; k++) {
             call("person/2", random.nextInt(12), 1 + random.nextInt(25));
         }
-        int m = random.nextInt(11);
+        int m = random.nextBoolean() ? 10 : random.nextInt(11);
         int span = random.nextBoolean() ? 100 : 20;
         for (int k = 0; k < m; k++) {
             int made = random.nextInt(span);

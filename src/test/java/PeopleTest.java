@@ -191,13 +191,19 @@ public final class PeopleTest {
         for (int[] b : bad) {
             check.due("mend(" + b[0] + ", " + b[1] + ", " + b[2] + ")", x.mend(b[0], b[1], b[2]), VOID);
         }
+        int[][] edges = {{0, 0, 0}, {1, 1, 60}, {2, 0, 9}, {3, 99, 10}, {4, 1, 9}, {5, 99, -1}};
+        for (int[] e : edges) {
+            int was = x.of(0, e[0]);
+            check.due("edge of " + e[0], x.mend(0, e[0], e[1]), was);
+            check.due("edge of " + e[0], x.mend(0, e[0], was), e[1]);
+        }
         int[] now = {30, 60, 9, 10, 9, -1, -1, 0, 10};
         for (int what = 0; what < 9; what++) {
             check.due("number " + what + " then", x.of(0, what), now[what]);
         }
-        check.due("changes", x.count(3), 9);
+        check.due("changes", x.count(3), 21);
         check.due("the same number", x.mend(0, 0, 30), 30);
-        check.due("is no change", x.count(3), 9);
+        check.due("is no change", x.count(3), 21);
     }
 
     private void of() {
@@ -265,6 +271,11 @@ public final class PeopleTest {
         long120.setCharAt(119, '5');
         long120.setCharAt(118, '5');
         check.due("120 bytes", law(long120.toString()), 1);
+        check.due("59 of 1, and 55", loud(long120.toString()), 99);
+        check.due("60 lines, of which the last lacks", law("1;".repeat(60)), -220);
+        check.due("60 lines", loud("0?1;".repeat(29) + "0;44"), 0);
+        check.due("60 lines", loud("0?1;".repeat(29) + "7;5"), 7);
+        check.due("119 bytes of operands", loud("o" + "|o".repeat(59)), 1);
     }
 
     /** One promise: 5 LINKS, DUE 10, so on day 20 o is 10; BASE 3 makes c 8; ROUND 12. */
@@ -285,7 +296,8 @@ public final class PeopleTest {
             {"3<1+1", 0}, {"0?5;7", 7}, {"3?5;7", 5}, {"0?5", 0}, {"0?5;0?6", 0}, {"o>5?40;41", 40},
             {"o>50?40;41", 41}, {"0?5;1?6;7", 6}, {"2;3", 2}, {"0005", 5}, {"!(o=10)+4", 4},
             {"--7", 7}, {"!!7", 1}, {"1|1+1", 1}, {"2*3%4", 2}, {"-(2-9)", 7}, {"50-o-l*2", 30},
-            {"-2%2+3", 3}, {"(0-7)/2+9", 6}};
+            {"-2%2+3", 3}, {"(0-7)/2+9", 6}, {"1&5", 1}, {"2=3", 0}, {"3>3", 0}, {"(0|2)+4", 5}, {"1?0|2;9", 1},
+            {"1?!!!!!!5;9", 1}, {"0&5", 0}, {"0|1?6;9", 6}};
         for (Object[] row : values) {
             check.due("value of " + row[0], loud((String) row[0]), (Integer) row[1]);
         }
