@@ -679,7 +679,7 @@ public final class ChainsHold {
                 readNumber();
             } else if (nameOf(sign) >= 0) {
                 place++;
-                write(sign);
+                write(nameOf(sign));
             } else if ((sign == '(' || sign == '!' || sign == '-') && open < MOST_OPEN) {
                 place++;
                 readOpened(sign, open + 1);
@@ -744,6 +744,7 @@ public final class ChainsHold {
             }
         }
 
+        /** A NAME is written as its place among those told, a number with NUMBER added. */
         private static int nameOf(int sign) {
             switch (sign) {
                 case 'o': return 0;
@@ -806,6 +807,9 @@ public final class ChainsHold {
             if (sign >= NUMBER) {
                 return sign - NUMBER;
             }
+            if (sign >= 0 && sign < told.length) {
+                return told[sign];
+            }
             switch (sign) {
                 case '!': return a == 0 ? 1 : 0;
                 case NEGATED: return -a;
@@ -819,13 +823,8 @@ public final class ChainsHold {
                 case '*': return a * b;
                 case '/': return b == 0 ? 0 : a / b;
                 case '%': return b == 0 ? 0 : a % b;
-                default: return valueOfName(sign);
+                default: return 0;
             }
-        }
-
-        private int valueOfName(int sign) {
-            int name = nameOf(sign);
-            return name >= 0 && name < told.length ? told[name] : 0;
         }
     }
 
