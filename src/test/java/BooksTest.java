@@ -101,6 +101,11 @@ public final class BooksTest {
         ChainsHold x = book(0, 0, 0, 0, 3, 4, 5);
         check.due("so", x.judge(2, 0), NOT);
         check.due("of another", x.judge(2, 1), 4);
+        x.put(2, 0, 1);
+        check.due("day 0 is not", x.judge(2, 0), 0);
+        check.due("nobody's", x.whose(2), 0);
+        check.due("no day", x.keptOn(2, 0, 0, 0), 0);
+        x.put(2, 0, 0);
         x.put(2, 6, 6);
         check.due("the last is not", x.judge(2, 0), 6);
         x.put(2, 4, -3);
@@ -256,7 +261,19 @@ public final class BooksTest {
         x.mend(0, 1, 11);
         x.mend(0, 2, 1);
         check.due("11 of 11 and slack: any 1 spoils nothing", x.byTurns(0, 2, 1), 10);
-        check.due("not open yet", x.byTurns(0, 11, 1), 10);
+        x.mend(0, 5, 0);
+        x.mend(1, 5, 1);
+        x.mend(2, 5, 1);
+        check.due("none is open on day 1", x.byTurns(0, 11, 1), 10);
+        ChainsHold y = new ChainsHold();
+        y.person(10, 10);
+        y.mend(0, 2, 1);
+        y.promise(3, 99);
+        y.promise(4, 99);
+        check.due("both must be kept, each once", y.byTurns(0, 3, 1), 0);
+        check.due("both must be kept, each once", y.byTurns(0, 3, 0), 1);
+        y.mend(0, 1, 11);
+        check.due("the 3 twice would do", y.byTurns(0, 3, 0), 0);
     }
 
     private void loudest() {
@@ -281,6 +298,10 @@ public final class BooksTest {
         check.due("two of 7", x.loudest(1), 14);
         x.mend(1, 5, -1);
         check.due("still the first", x.loudest(0), 16);
+        x.feed('p');
+        x.law();
+        check.due("1 is louder than nothing", x.loudest(0), 16);
+        check.due("1", x.loudest(1), 1);
         x.feed('0');
         x.law();
         check.due("silent", x.loudest(0), 0);

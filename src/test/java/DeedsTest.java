@@ -231,32 +231,36 @@ public final class DeedsTest {
             x.mend(1 - k % 2, 1, 10 + k);
             x.mend(k % 2, 3, 60 + k);
             x.mend(1 - k % 2, 5, 30 + k);
-            x.mend(k % 2, 2, k % 2 == 0 ? 9 - k : k == 2 ? 1 : k);
+            x.mend(k % 2, 2, k % 2 == 0 ? 9 - k : k);
         }
-        int changes = x.count(3);
-        check.due("forty", changes, 40);
-        int[] before = {x.of(0, 0), x.of(1, 0), x.of(0, 1), x.of(1, 1), x.of(0, 3), x.of(1, 3), x.of(0, 5), x.of(1, 5)};
-        int[] then = {8, 9, 19, 18, 68, 69, 39, 38};
-        for (int i = 0; i < then.length; i++) {
-            check.due("told last " + i, before[i], then[i]);
-        }
+        x.mend(0, 0, 20);
+        x.mend(1, 1, 30);
+        check.due("forty", x.count(3), 40);
+        int[] then = {20, 9, 19, 30, 68, 69, 39, 38};
+        toldLast(x, then);
         for (int left = 39; left >= 0; left--) {
             check.due("undo", x.undo(), left);
         }
-        // the first five were forgotten: those of k = 1
+        // the first seven were forgotten: those of k = 1, and two of k = 2
         check.due("base of 1", x.of(1, 0), 1);
         check.due("round of 0", x.of(0, 1), 11);
         check.due("due of 1", x.of(1, 3), 61);
         check.due("kept of 0", x.of(0, 5), 31);
         check.due("slack of 1", x.of(1, 2), 1);
-        check.due("base of 0", x.of(0, 0), 0);
+        check.due("base of 0", x.of(0, 0), 2);
+        check.due("round of 1", x.of(1, 1), 12);
+        check.due("due of 0", x.of(0, 3), 50);
         check.due("kept of 1", x.of(1, 5), -1);
         for (int left = 39; left >= 0; left--) {
             check.due("redo", x.redo(), left);
         }
+        toldLast(x, then);
+    }
+
+    private void toldLast(ChainsHold x, int[] then) {
+        int[] whats = {0, 1, 3, 5};
         for (int i = 0; i < then.length; i++) {
-            int what = new int[] {0, 1, 3, 5}[i / 2];
-            check.due("done again " + i, x.of(i % 2, what), then[i]);
+            check.due("number " + whats[i / 2] + " of " + i % 2, x.of(i % 2, whats[i / 2]), then[i]);
         }
     }
 

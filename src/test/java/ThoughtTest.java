@@ -17,6 +17,7 @@ public final class ThoughtTest {
         test.who();
         test.best();
         test.keepBy();
+        test.keepAll();
         test.lightest();
         test.ways();
         test.can();
@@ -198,6 +199,10 @@ public final class ThoughtTest {
         y.person(0, 3);
         check.due("nobody ever", y.best(0), 0);
         check.due("nobody ever", y.best(1), 0);
+        y.promise(3, 101);
+        check.due("day 1", y.best(0), 1);
+        y.mend(0, 5, 2);
+        check.due("day 1 alone", y.best(0), 1);
     }
 
     /** BASE 0, ROUND 10, SLACK 0; LINKS 3, 7, 4, 6 and another's 5 that is WITH him: 25 on day 0. */
@@ -246,6 +251,21 @@ public final class ThoughtTest {
         check.due("what 2", x.keepBy(0, 0, 2), BAD);
         check.due("day 100", x.keepBy(0, 100, 0), BAD);
         check.due("one 2", x.keepBy(2, 0, 0), BAD);
+    }
+
+    private void keepAll() {
+        ChainsHold x = new ChainsHold();
+        x.person(10, 10);
+        x.mend(0, 2, 0);
+        for (int k = 0; k < 10; k++) {
+            x.promise(9, 99);
+        }
+        check.due("all ten", x.keepBy(0, 0, 0), 10);
+        check.due("all ten", x.keepBy(0, 0, 1), 1023);
+        check.due("all ten", x.lightest(0, 0, 0), 1023);
+        check.due("all ten", x.lightest(0, 0, 1), 90);
+        check.due("all ten", x.ways(0, 0), 1);
+        check.due("in 90 days of 100", x.most(0, 1), 1023);
     }
 
     private void lightest() {
