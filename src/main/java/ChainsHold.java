@@ -659,17 +659,21 @@ public final class ChainsHold {
 
         /** Levels 0 to 4 are E, A, B, S, P of the document; open counts the ( ! - that stand open. */
         private void readLevel(int level, int open) {
-            if (level >= OPERAND_LEVEL) {
-                readOperand(open);
-                return;
-            }
-            readLevel(level + 1, open);
+            readPart(level + 1, open);
             int mostSigns = level == COMPARING_LEVEL ? 1 : MOST_BYTES;
             for (int read = 0; read < mostSigns && levelOf(next()) == level; read++) {
                 int sign = next();
                 place++;
-                readLevel(level + 1, open);
+                readPart(level + 1, open);
                 write(sign);
+            }
+        }
+
+        private void readPart(int level, int open) {
+            if (level >= OPERAND_LEVEL) {
+                readOperand(open);
+            } else {
+                readLevel(level, open);
             }
         }
 
@@ -1049,35 +1053,36 @@ public final class ChainsHold {
         }
 
         boolean winsByTurns(int one, int day, int turns) {
-            return endsRiding(one, smith.lengthOn(one, day), mayKeep(one, day), 0, turns);
+            return endsRiding(smith, one, smith.lengthOn(one, day), mayKeep(one, day), 0, turns);
         }
 
         int bestFirstTurn(int one, int day, int turns) {
             int open = mayKeep(one, day);
             int length = smith.lengthOn(one, day);
             for (int p = 0; p < smith.promises; p++) {
-                if (isIn(open, p) && endsRiding(one, length - smith.links[p], open ^ 1 << p, 1, turns)) {
+                if (isIn(open, p) && endsRiding(smith, one, length - smith.links[p], open ^ 1 << p, 1, turns)) {
                     return p;
                 }
             }
-            if (open == 0 || endsRiding(one, length, open, 1, turns)) {
+            if (open == 0 || endsRiding(smith, one, length, open, 1, turns)) {
                 return NO_PROMISE_KEPT;
             }
             return Integer.numberOfTrailingZeros(open);
         }
 
         /** Whether he RIDES in the end, if both do their best from this turn on. */
-        private boolean endsRiding(int one, int length, int open, int turn, int turns) {
+        private static boolean endsRiding(Smith smith, int one, int length, int open, int turn, int turns) {
             if (turn >= turns) {
                 return smith.goesRound(one, length);
             }
-            boolean ifNone = endsRiding(one, length, open, turn + 1, turns);
+            int next = turn + 1;
+            boolean ifNone = endsRiding(smith, one, length, open, next, turns);
             if (turn % 2 == 1) {
-                return ifNone && endsRiding(one, length + 1, open, turn + 1, turns);
+                return ifNone && endsRiding(smith, one, length + 1, open, next, turns);
             }
             boolean rides = ifNone;
             for (int p = 0; p < smith.promises && !rides; p++) {
-                rides = isIn(open, p) && endsRiding(one, length - smith.links[p], open ^ 1 << p, turn + 1, turns);
+                rides = isIn(open, p) && endsRiding(smith, one, length - smith.links[p], open ^ 1 << p, next, turns);
             }
             return rides;
         }
@@ -1466,6 +1471,11 @@ public final class ChainsHold {
             return run(kinds[acting], act, x, depth);
         }
 
+        /** What super means in a body of this KIND. */
+        private int fromAbove(int kind, int act, int x, int depth) {
+            return run(ABOVE[kind], act, x, depth);
+        }
+
         /** Runs the act of a KIND, or of the next one above that has it. */
         private int run(int from, int act, int x, int depth) {
             int kind = kindWith(from, act);
@@ -1474,22 +1484,21 @@ public final class ChainsHold {
             }
             int number = OWN_ACTS[kind * ACTS + act];
             note(number);
-            int above = ABOVE[kind];
             int deeper = depth + 1;
             switch (number) {
                 case 1: return x + acting;
                 case 2: return own(RIDES, x, deeper) - own(CREAKS, 1, deeper);
                 case 10: return own(HOLDS, x, deeper) * 2;
                 case 11: return x ^ acting;
-                case 20: return run(above, HOLDS, x, deeper) + 3;
-                case 30: return -run(above, RIDES, x, deeper);
-                case 40: return run(above, CREAKS, x, deeper) * 3;
-                case 41: return run(above, RIDES, x + 1, deeper);
-                case 50: return run(above, CREAKS, x, deeper) - own(HOLDS, 2, deeper);
-                case 60: return run(above, TELLS, x, deeper) ^ 5;
-                case 70: return run(above, HOLDS, x, deeper) * 2;
-                case 80: return run(above, RIDES, x, deeper) + own(CREAKS, 2, deeper);
-                case 81: return run(above, TELLS, x, deeper) - 1;
+                case 20: return fromAbove(kind, HOLDS, x, deeper) + 3;
+                case 30: return -fromAbove(kind, RIDES, x, deeper);
+                case 40: return fromAbove(kind, CREAKS, x, deeper) * 3;
+                case 41: return fromAbove(kind, RIDES, x + 1, deeper);
+                case 50: return fromAbove(kind, CREAKS, x, deeper) - own(HOLDS, 2, deeper);
+                case 60: return fromAbove(kind, TELLS, x, deeper) ^ 5;
+                case 70: return fromAbove(kind, HOLDS, x, deeper) * 2;
+                case 80: return fromAbove(kind, RIDES, x, deeper) + own(CREAKS, 2, deeper);
+                case 81: return fromAbove(kind, TELLS, x, deeper) - 1;
                 default: return 0;
             }
         }

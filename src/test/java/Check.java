@@ -1,8 +1,18 @@
 /** Counts answers that are not as due, and ends the test with them. */
 final class Check {
+    private final String ahead;
     private int wrong;
     private int asked;
     private int promise;
+
+    Check() {
+        this("promise ");
+    }
+
+    /** What is told ahead of the number of a promise. */
+    Check(String ahead) {
+        this.ahead = ahead;
+    }
 
     /** The answers that follow belong to this promise of the document. */
     void promise(int number) {
@@ -13,7 +23,7 @@ final class Check {
         asked++;
         if (got != want) {
             wrong++;
-            System.out.println("promise " + promise + ": " + call + " answered " + got + ", due is " + want);
+            System.out.println(ahead + promise + ": " + call + " answered " + got + ", due is " + want);
         }
     }
 
