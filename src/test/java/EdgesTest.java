@@ -2,6 +2,7 @@ import java.io.IOException;
 import java.nio.file.Files;
 import java.nio.file.Path;
 import java.util.ArrayList;
+import java.util.Arrays;
 import java.util.List;
 import java.util.stream.Collectors;
 import java.util.stream.Stream;
@@ -9,7 +10,7 @@ import java.util.stream.Stream;
 /**
  * The edges of the document, sentence by sentence: src/test/edges/*.txt quotes each of them behind a >, and tells under
  * it calls on a new object with the answers that its words make due (README.md says how these files are written).
- * Each quote is looked for in ../shared/DOC.md, and each promise of the document must be quoted whole.
+ * Each quote is looked for in ../shared/DOC.md, and all that it tells must be quoted, from its first line to its last.
  */
 public final class EdgesTest {
     private static final Path EDGES = Path.of("src/test/edges");
@@ -115,15 +116,49 @@ public final class EdgesTest {
                 fault("the document does not say: " + quote);
             }
         }
-        for (String line : Files.readAllLines(DOCUMENT)) {
-            boolean isPromise = line.matches("`\\w+ ?\\w*\\(.*\\)`: .*");
-            if (isPromise && !isQuoted(line.substring(line.indexOf("`: ") + 3))) {
-                fault("no test quotes: " + line);
-            }
-        }
+        lookForGaps(plain(toldPart()));
     }
 
-    private boolean isQuoted(String part) {
-        return quotes.stream().anyMatch(q -> plain(q).contains(plain(part)));
+    /** What of the document tells what calls answer: without headings, the face (FaceTest) and what is not promised. */
+    private static String toldPart() throws IOException {
+        StringBuilder told = new StringBuilder();
+        boolean face = false;
+        for (String line : Files.readAllLines(DOCUMENT)) {
+            if (line.equals("## Not promised")) {
+                break;
+            }
+            face = line.equals("```java") || face && !line.equals("```");
+            if (!face && !line.startsWith("#") && !line.startsWith("```")) {
+                told.append(withoutHead(line)).append('\n');
+            }
+        }
+        return told.toString();
+    }
+
+    private static String withoutHead(String line) {
+        return line.replaceFirst("^`.*\\)`: ", "").replaceFirst("^======== \\d ", "").replaceFirst("^DETAILS\\. ", "")
+            .replaceFirst("^Ahead of the calls .* the interface says: ---- [a-z, ]+", "")
+            .replaceFirst("All memory is the class's own\\.$", ""); // MemoryTest looks at this
+    }
+
+    /** Each sign of it must stand in a quote. */
+    private void lookForGaps(String told) {
+        boolean[] quoted = new boolean[told.length()];
+        for (String quote : quotes) {
+            String part = plain(quote);
+            for (int at = told.indexOf(part); at >= 0; at = told.indexOf(part, at + 1)) {
+                Arrays.fill(quoted, at, at + part.length(), true);
+            }
+        }
+        for (int from = 0, to = 0; from < told.length(); from = to + 1) {
+            to = from;
+            while (to < told.length() && !quoted[to]) {
+                to++;
+            }
+            String gap = told.substring(from, to);
+            if (gap.matches("(?s).*\\w.*")) {
+                fault("no test quotes: " + gap);
+            }
+        }
     }
 }
