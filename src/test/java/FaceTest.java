@@ -3,6 +3,8 @@ import java.lang.reflect.Field;
 import java.lang.reflect.Member;
 import java.lang.reflect.Method;
 import java.lang.reflect.Modifier;
+import java.nio.file.Files;
+import java.nio.file.Path;
 import java.util.Arrays;
 import java.util.HashSet;
 import java.util.Set;
@@ -24,9 +26,10 @@ public final class FaceTest {
     private FaceTest() {
     }
 
-    public static void main(String[] args) {
+    public static void main(String[] args) throws Exception {
         Check check = new Check();
         Set<String> due = new TreeSet<>(Arrays.asList(FACE.split("\\|")));
+        check.due("the document's methods " + faceOfDocument(), faceOfDocument().equals(due) ? 1 : 0, 1);
         Set<String> found = new TreeSet<>();
         Set<String> publicNames = new HashSet<>();
         int hidden = 0;
@@ -58,6 +61,17 @@ public final class FaceTest {
         }
         constants(check);
         check.end("FaceTest");
+    }
+
+    /** The methods of the document's face, written as FACE is. */
+    private static Set<String> faceOfDocument() throws Exception {
+        Set<String> face = new TreeSet<>();
+        for (String line : Files.readAllLines(Path.of("../shared/DOC.md"))) {
+            if (line.matches("    public (int|long) \\w+\\(.*\\);")) {
+                face.add(line.replaceAll("public |;|^ +| \\w+(?=[,)])", "").replace(", ", ","));
+            }
+        }
+        return face;
     }
 
     private static boolean isPrivate(Member m) {
