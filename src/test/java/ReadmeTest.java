@@ -97,6 +97,9 @@ public final class ReadmeTest {
     private static List<List<Long>> play(String calls) throws IOException, ReflectiveOperationException {
         Path folder = Files.createTempDirectory("readme");
         Path source = folder.resolve("ReadmeCalls.java");
+        for (Path made : List.of(folder, source, folder.resolve("ReadmeCalls.class"))) {
+            made.toFile().deleteOnExit();
+        }
         Files.writeString(source, "import java.util.List;\npublic final class ReadmeCalls {\npublic static void play(List<Long> got, "
             + "List<Long> due, List<Long> at) {\n" + calls + "}\n}\n");
         JavaCompiler compiler = ToolProvider.getSystemJavaCompiler();
@@ -139,6 +142,8 @@ public final class ReadmeTest {
             Path script = Files.createTempFile("readme", ".sh");
             Files.writeString(script, "set -e\n" + String.join("\n", block.lines) + "\n");
             Path printed = Files.createTempFile("readme", ".txt");
+            script.toFile().deleteOnExit();
+            printed.toFile().deleteOnExit();
             Process process = new ProcessBuilder("bash", script.toString()).redirectErrorStream(true)
                 .redirectOutput(printed.toFile()).start();
             int code = process.waitFor();
